@@ -1097,6 +1097,9 @@ public final class RingWeaves {
             int other = end;
             for (int n = 0; n < RINGS_MOST && other != NONE; n++) {
                 int ring = reachedFrom[other];
+                if (ring == NONE) {
+                    return;
+                }
                 int pairBefore = pair[ring];
                 pair[ring] = other;
                 pair[other] = ring;
