@@ -3,6 +3,7 @@ public final class SheetTest {
     public static void main(String[] args) {
         Checks checks = new Checks();
         layOut(checks);
+        layMostLinks(checks);
         layNone(checks);
         at(checks);
         add(checks);
@@ -37,6 +38,27 @@ public final class SheetTest {
         checks.dueLook(x, 4, 1, 0);
         checks.due("lay(12, 10)", x.lay(12, 10), 240);
         checks.due("count(0)", x.count(0), 240);
+    }
+
+    private static void layMostLinks(Checks checks) {
+        StringBuilder text = new StringBuilder("ring a;");
+        int links = 0;
+        for (int i = 1; i <= 24; i++) {
+            int right = i % 5;
+            int down = i / 5;
+            text.append("link a a ").append(right).append(' ').append(down).append(i % 2 == 0 ? " over;" : " under;");
+            links += (12 - right) * (12 - down);
+        }
+        RingWeaves x = Checks.withWeave(text.toString());
+        checks.due("count(10)", x.count(10), 24);
+        checks.due("lay(12, 12)", x.lay(12, 12), 144);
+        checks.due("count(1)", x.count(1), links);
+        checks.due("count(3)", x.count(3), 4 * 4);
+        checks.dueLook(x, 65, 1, 48);
+        checks.due("over of the last link", x.over(0, 4 * 12 + 4), 1);
+        checks.due("take(65)", x.take(65), 48);
+        checks.due("mend()", x.mend(), 1);
+        checks.due("count(1)", x.count(1), links);
     }
 
     private static void layNone(Checks checks) {

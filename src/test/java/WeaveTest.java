@@ -15,6 +15,7 @@ public final class WeaveTest {
         names(checks);
         aways(checks);
         tooMany(checks);
+        signsOfEarlierTapes(checks);
         sameLinks(checks);
         whatStays(checks);
         checks.finish();
@@ -49,6 +50,7 @@ public final class WeaveTest {
         checks.dueFault("ring a;link a a 1 0 ove;", CANT_STAND, 20);
         checks.dueFault("ring a;;", CANT_STAND, 7);
         checks.dueFault("ring a; # ", CANT_STAND, 8);
+        checks.dueWeave("ring az;ring zzzzzzzz;link az zzzzzzzz 0 0 under;", 0);
         // What is told apart only beyond the eighth letter is no word at all.
         checks.dueFault("ring xxxxxring;", CANT_STAND, 5);
         checks.dueWeave("ring aring;ring xxxxlink;", 0);
@@ -124,6 +126,18 @@ public final class WeaveTest {
         checks.dueFault(text + "link ?", ONE_TOO_MANY, text.length());
         // A ring behind links can't stand there, one too many or not: the least kind counts.
         checks.dueFault("ring a;ring b;ring c;ring d;link a b 0 0 over;ring e;", CANT_STAND, 46);
+    }
+
+    private static void signsOfEarlierTapes(Checks checks) {
+        RingWeaves x = new RingWeaves();
+        Checks.feed(x, "ring a;link a a 123456");
+        checks.due("weave()", x.weave(), CANT_STAND + 16 * 16);
+        Checks.feed(x, "ring a;link a a 1");
+        checks.due("weave() ahead of digits that were taken", x.weave(), CANT_STAND + 16 * 17);
+        Checks.feed(x, "ring abcdefghijk");
+        x.weave();
+        Checks.feed(x, "ring ab");
+        checks.due("weave() ahead of letters that were taken", x.weave(), CANT_STAND + 16 * 7);
     }
 
     private static void sameLinks(Checks checks) {
