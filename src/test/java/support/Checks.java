@@ -7,12 +7,18 @@ final class Checks {
 
     private int wrong;
     private int asked;
+    private String sentence = "";
+
+    /** The document's words that the next answers are held against: told with each that is wrong. */
+    void sentence(String words) {
+        sentence = "[" + words + "] ";
+    }
 
     void due(String call, long got, long want) {
         asked++;
         if (got != want) {
             wrong++;
-            System.out.println(call + " answered " + got + ", due is " + want);
+            System.out.println(sentence + call + " answered " + got + ", due is " + want);
         }
     }
 
@@ -37,6 +43,17 @@ final class Checks {
             thrown = 1;
         }
         due("look(" + ring + ", " + what + ") throws", thrown, 1);
+    }
+
+    /** Of rings 0, 1 and so on, what look answers. */
+    void dueLooks(RingWeaves x, int what, int... want) {
+        for (int ring = 0; ring < want.length; ring++) {
+            dueLook(x, ring, what, want[ring]);
+        }
+    }
+
+    void dueCount(RingWeaves x, int what, int want) {
+        due("count(" + what + ")", x.count(what), want);
     }
 
     void dueWeave(String text, int want) {
