@@ -856,6 +856,7 @@ public final class RingWeaves {
         private int rootBranches;
         private int changesSeen;
         final int[] least;
+        /** Of rings that are there alone: taken ones are on no side. */
         final boolean[] firstSide;
         final boolean[] cut;
         int number;
@@ -885,6 +886,7 @@ public final class RingWeaves {
             foundSoFar = 0;
             for (int ring = 0; ring < RINGS_MOST; ring++) {
                 found[ring] = NONE;
+                firstSide[ring] = false;
                 cut[ring] = false;
             }
             for (int ring = 0; ring < mail.numbered; ring++) {
@@ -1017,7 +1019,7 @@ public final class RingWeaves {
         private void pairWhatIsFree() {
             Arrays.fill(pair, NONE);
             for (int ring = 0; ring < mail.numbered; ring++) {
-                if (isOfFirstSide(ring)) {
+                if (pieces.firstSide[ring]) {
                     pairWithFree(ring);
                 }
             }
@@ -1049,7 +1051,8 @@ public final class RingWeaves {
         /** A ring of the second side in no pair that can be reached; NONE: then all that can be is reached. */
         private int reachFromUnpaired() {
             queueUnpaired();
-            for (int head = 0; head < queueLength; head++) {
+            // The queue grows meanwhile, but each ring comes into it once.
+            for (int head = 0; head < RINGS_MOST && head < queueLength; head++) {
                 int end = reachFrom(queue[head]);
                 if (end != NONE) {
                     return end;
@@ -1063,7 +1066,7 @@ public final class RingWeaves {
             queueLength = 0;
             for (int ring = 0; ring < mail.numbered; ring++) {
                 queued[ring] = false;
-                if (isOfFirstSide(ring) && pair[ring] == NONE) {
+                if (pieces.firstSide[ring] && pair[ring] == NONE) {
                     putInQueue(ring);
                 }
             }
@@ -1162,10 +1165,6 @@ public final class RingWeaves {
                 marks.put(AT_HAND, ring);
                 marks.putAllOf(NEAR, mail.joined, ring);
             }
-        }
-
-        private boolean isOfFirstSide(int ring) {
-            return mail.isThere(ring) && pieces.firstSide[ring];
         }
     }
 }
